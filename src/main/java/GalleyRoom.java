@@ -155,7 +155,6 @@ public final class GalleyRoom {
     private final int[] refusals = new int[5];
     private int tapeBytes;
     private int turnedCount;
-    private int faultPlace = NONE;
     private int stoppedClause = NONE;
     private int latestRefusal;
 
@@ -276,7 +275,9 @@ public final class GalleyRoom {
             tapeBytes = 0;
             return refuse(NO_ROOM);
         }
-        if (!readTape(false)) {
+        reader.readText(tape, tapeBytes, false);
+        tapeBytes = 0;
+        if (reader.faultAt != NONE) {
             return refuse(BAD_TEXT);
         }
         now.law[now.laws] = reader.draft.trimmed();
@@ -286,7 +287,9 @@ public final class GalleyRoom {
 
     public int orders() {
         stoppedClause = NONE;
-        if (!readTape(true)) {
+        reader.readText(tape, tapeBytes, true);
+        tapeBytes = 0;
+        if (reader.faultAt != NONE) {
             return refuse(BAD_TEXT);
         }
         Text orders = reader.draft;
@@ -304,7 +307,7 @@ public final class GalleyRoom {
     }
 
     public int fault() {
-        return faultPlace;
+        return reader.faultAt;
     }
 
     public int stopped() {
@@ -630,13 +633,6 @@ public final class GalleyRoom {
         }
         now.addWord(wide, splits, kind);
         return true;
-    }
-
-    private boolean readTape(boolean asOrders) {
-        reader.readText(tape, tapeBytes, asOrders);
-        tapeBytes = 0;
-        faultPlace = reader.faultAt;
-        return faultPlace == NONE;
     }
 
     private void layPaper(Galley galley, Text law) {
@@ -1255,7 +1251,7 @@ public final class GalleyRoom {
                     break;
                 } else {
                     held--;
-                    stack[held - 1] = together(what, stack[held - 1], top);
+                    stack[held - 1] = combine(what, stack[held - 1], top);
                     if (broken) {
                         return 0;
                     }
@@ -1265,7 +1261,7 @@ public final class GalleyRoom {
             return 0;
         }
 
-        private long together(int what, long a, long b) {
+        private long combine(int what, long a, long b) {
             long value = 0;
             switch (what) {
                 case ADD:
@@ -1685,7 +1681,7 @@ public final class GalleyRoom {
                 return false;
             }
             sheet.readSetting(galley);
-            gatherFacts();
+            gatherOrderFacts();
             if (orders.test[c] != NONE && machine.valueOf(orders, orders.test[c], facts) == 0) {
                 return true;
             }
@@ -1713,7 +1709,7 @@ public final class GalleyRoom {
             return true;
         }
 
-        private void gatherFacts() {
+        private void gatherOrderFacts() {
             facts[ORDER_PROOF] = galley.terms[PROOF];
             facts[ORDER_DONE] = done;
             facts[ORDER_LATEST] = latestTold;
