@@ -395,7 +395,7 @@ public final class GalleyRoom {
             return NONE;
         }
         for (int measure = LEAST_TERM[MEASURE]; measure <= MOST_TERM[MEASURE]; measure++) {
-            paper.layOut(now, now.lawInForce(), measure);
+            paper.layOut(now, now.lawInForce(), measure, true);
             if (paper.canBeOfAtMost(k)) {
                 return measure;
             }
@@ -636,7 +636,7 @@ public final class GalleyRoom {
     }
 
     private void layPaper(Galley galley, Text law) {
-        paper.layOut(galley, law, galley.terms[MEASURE]);
+        paper.layOut(galley, law, galley.terms[MEASURE], false);
     }
 
     private static int nextDraw(int s) {
@@ -1316,13 +1316,16 @@ public final class GalleyRoom {
             }
         }
 
-        void judge(Galley galley, Text law, int measure, int number) {
+        void judge(Galley galley, Text law, int measure, int number, boolean barsAlone) {
             gatherFacts(galley, measure, number);
             costs = facts[LAW_LAST] == 1 ? 0 : Math.max(0, facts[LAW_SHORT]);
             pays = pieces;
             barred = false;
             int clauses = law == null ? 0 : Math.min(law.clauses, MOST_CLAUSES);
             for (int c = 0; c < clauses; c++) {
+                if (barsAlone && law.verb[c] != LAW_BARS) {
+                    continue;
+                }
                 if (law.test[c] != NONE && machine.valueOf(law, law.test[c], facts) == 0) {
                     continue;
                 }
@@ -1371,7 +1374,7 @@ public final class GalleyRoom {
             for (int place = 0; place < 2 * galley.words && lines < MOST_LINES; place++) {
                 if (galley.endsAt(place)) {
                     line.measureUp(galley, from, place);
-                    line.judge(galley, galley.lawInForce(), galley.terms[MEASURE], lines);
+                    line.judge(galley, galley.lawInForce(), galley.terms[MEASURE], lines, false);
                     writeDown(lines);
                     lines++;
                     from = place;
@@ -1492,7 +1495,8 @@ public final class GalleyRoom {
         private final Line line = new Line();
         private int lastPlace = NONE;
 
-        void layOut(Galley galley, Text law, int measure) {
+        /** With bars alone it tells which SETTINGS can be, not what they cost and pay: narrow() asks for no more, often. */
+        void layOut(Galley galley, Text law, int measure, boolean barsAlone) {
             Arrays.fill(reached, 0);
             costs[0] = 0;
             pays[0] = 0;
@@ -1512,12 +1516,12 @@ public final class GalleyRoom {
                     if (line.width > measure) {
                         break;
                     }
-                    layLine(galley, law, measure, from);
+                    layLine(galley, law, measure, from, barsAlone);
                 }
             }
         }
 
-        private void layLine(Galley galley, Text law, int measure, int from) {
+        private void layLine(Galley galley, Text law, int measure, int from, boolean barsAlone) {
             boolean judged = false;
             for (int number = 0; number < MOST_LINES; number++) {
                 int here = slot(from, number);
@@ -1527,7 +1531,7 @@ public final class GalleyRoom {
                 }
                 // Most LAWS do not ask which LINE it is: one judgement is enough then.
                 if (!judged || law != null && law.asksLine) {
-                    line.judge(galley, law, measure, number);
+                    line.judge(galley, law, measure, number, barsAlone);
                     judged = true;
                 }
                 if (line.fits) {

@@ -164,6 +164,20 @@ public final class PromiseTest {
         due(x.all(3), -1);
         due(x.all(-1), -1);
         due(new GalleyRoom().all(1), 0);
+        x = room(5, 5);
+        due(x.all(1), 2);
+        x.terms(3, 10);
+        due(x.all(2), 0);
+        x.stop(0);
+        due(x.all(2), 2);
+        promise("4 line: the first WORD is SPLIT");
+        x = new GalleyRoom();
+        x.word(9, 1, 0);
+        x.split(0);
+        due(x.count(1), 2);
+        due(x.line(0, 0), 0);
+        due(x.line(0, 1), 2);
+        due(x.line(1, 1), 8);
     }
 
     private static void terms() {
@@ -335,7 +349,7 @@ public final class PromiseTest {
         String[] so = {"1<2", "2>1", "1=1", "not 2<1", "not not 1=1", "1=2 or 1=1", "1=1 and 2=2", "1=2 and 1=2 or 1=1",
             "1=1 or 1=1 and 1=2", "not(1=1 and 1=2)", "not 1=2 and 1=1", "1=1 or 1/0=1", "not (1=2 and 1/0=1)", "1=2 and 1/0=1 or 1=1",
             "(1=1)", "((1=2) or (1=1))", "[1]=1", "not(1=1 or 1=1)or 3>2"};
-        String[] not = {"2<1", "1<1", "1>1", "1=2", "not 1=1", "1=2 or 2=1", "1=1 and 1=2", "1=1 and(1=2 or 1=2)", "1/0=1 or 1=1",
+        String[] not = {"not 1<2", "not 2>1", "2<1", "1<1", "1>1", "1=2", "not 1=1", "1=2 or 2=1", "1=1 and 1=2", "1=1 and(1=2 or 1=2)", "1/0=1 or 1=1",
             "not 1/0=1", "1=2 or 1/0=1", "1=1 and 1/0=1", "1/0=1 and 1=2", "not(1/0=1 and 1=2)", "(1=1 or 1=1)and 1=2", "1000*1000*1000+1>0"};
         for (String t : so) due(costs(x, 0, "3 if " + t), 3);
         for (String t : not) due(costs(x, 0, "3 if " + t), 25);
@@ -349,7 +363,8 @@ public final class PromiseTest {
             {"bars 1", 5}, {"bars if", 7}, {"bars if 1", 9}, {"bars if 1=", 10}, {"bars if 1=1=1", 11}, {"bars if (1=1", 12},
             {"bars if [1=1]", 10}, {"bars if (1)=1", 10}, {"bars if not", 11}, {"bars if 1=1 or", 14}, {"bars if 1=1 xor 1=1", 12},
             {"bars if 1=1 if 1=1", 12}, {"bars;", 5}, {"bars;;bars", 5}, {";bars", 0}, {"bars,bars", 4}, {"bars times 2", 5},
-            {"pays 1 to 2", 7}, {"costsx 1", 0}, {"costs1 x", 7}, {"costs 1x", 7}, {"costs 1\n", 7}, {"costs \u00e9", 6}, {"pass", 0},
+            {"pays 1 to 2", 7}, {"costsx 1", 0}, {"costsz 1", 0}, {"acosts 1", 0}, {";".repeat(400), 0}, {"bars" + "+".repeat(396), 4},
+            {"bars if " + "not ".repeat(98), 400}, {"costs 1" + " ".repeat(392) + "(", 399}, {"costs1 x", 7}, {"costs 1x", 7}, {"costs 1\n", 7}, {"costs \u00e9", 6}, {"pass", 0},
             {"bars if 1==1", 10}, {"bars if 1<=1", 10}, {"costs 1.5", 7}, {"costs 12 3", 9}, {"costs ones", 6}};
         for (Object[] f : laws) {
             GalleyRoom x = new GalleyRoom();
@@ -360,7 +375,8 @@ public final class PromiseTest {
         for (String good : new String[] {"costs 1000", "costs1", "bars", "bars if 1=1and 2=2or 3=3", "pays[1]", "bars ;bars", "costs 00001",
             "bars if not not not 1=1", " bars if(1=1) "}) due(law(new GalleyRoom(), good), 0);
         Object[][] orders = {{"", 0}, {"end", 3}, {"swell 0", 7}, {"swell 0 to", 10}, {"swell 0 by 1", 8}, {"split 0 to 1", 8}, {"pass 1", 5},
-            {"pass times 0", 11}, {"pass times 21", 11}, {"pass times", 10}, {"pass times proof", 11}, {"pass if 1=1 times 2", 12},
+            {"pass times 0", 11}, {"pass times 21", 11}, {"pass times", 10}, {"pass times if 1", 11}, {"pass times 0 if 1", 11}, {"end [[[[[[[[[1]]]]]]]]]", 12},
+            {"swell 0 to [[[[[[[[[1]]]]]]]]]", 19}, {"pass times proof", 11}, {"pass if 1=1 times 2", 12},
             {"end wide 12", 9}, {"end wide", 8}, {"end ends [1]", 9}, {"end wide proof", 9}, {"end line", 4}, {"end mood", 4},
             {"pass;costs 1", 5}, {"stop 0", 0}, {"end 0 end 1", 6}, {"pass times 1+1", 12}, {"end wide 99999999999", 9}};
         for (Object[] f : orders) {
@@ -414,6 +430,8 @@ public final class PromiseTest {
         due(law(x, "bars if (((((((((1=1)))))))))"), -6);
         due(x.fault(), 16);
         due(law(x, "costs [1]" + "+[1]".repeat(49)), 5);
+        due(orders(x, "swell [[[[[[[[0]]]]]]]] to [[[[[[[[9]]]]]]]]"), 1);
+        due(x.of(0, 0), 9);
         x = room(5, 5);
         due(law(x, "bars if " + "not ".repeat(97) + "1=1"), 0);
         x.force(0);
@@ -635,6 +653,43 @@ public final class PromiseTest {
         x.stop(0);
         x.back(1);
         due(x.undo(), -3);
+        promise("20 undo: the 16 latest");
+        x = room(5, 5, 5);
+        for (int i = 0; i < 7; i++) {
+            x.swell(i % 3, 6 + i);
+            x.stop(i % 2);
+            x.pass();
+        }
+        // 21 in all: the first five are past undoing
+        for (int i = 6; i >= 2; i--) {
+            due(x.undo(), 3);
+            due(x.undo(), 0);
+            due(x.undo(), 2);
+            due(x.of(i % 3, 0), i < 3 ? 5 : 6 + i - 3);
+        }
+        due(x.count(5), 1);
+        due(x.undo(), 3);
+        due(x.undo(), -3);
+        due(x.of(0, 0), 6);
+        due(x.of(1, 0), 7);
+        due(x.of(0, 3), 1);
+        due(x.of(1, 3), 1);
+        due(x.count(13), 1);
+        promise("20 undo: behind ORDERS that could not be");
+        x = room(5, 5, 5);
+        x.swell(1, 9);
+        x.swell(2, 7);
+        x.stop(1);
+        for (int i = 0; i < 13; i++) x.pass();
+        due(orders(x, "swell 0 to 6; swell 0 to 7; swell 0 to 8; end 0; pass times 20; end 9"), -3);
+        for (int i = 0; i < 13; i++) due(x.undo(), 3);
+        due(x.undo(), 0);
+        due(x.of(1, 3), 0);
+        due(x.undo(), 2);
+        due(x.of(2, 0), 5);
+        due(x.undo(), 2);
+        due(x.of(1, 0), 5);
+        due(x.of(0, 0), 5);
         promise("20 undo: by ORDERS");
         x = room(5, 5, 5);
         x.stop(0);
@@ -693,6 +748,22 @@ public final class PromiseTest {
         due(z.best(-1), 9);
         due(z.best(1), 3);
         due(z.best(2), 5);
+        promise("21 to 24: a LAW that asks for the number of the LINE alone");
+        GalleyRoom fours = room(5, 5, 5, 5);
+        fours.terms(3, 11);
+        due(fours.most(), 4);
+        law(fours, "bars if line > 2");
+        fours.force(0);
+        due(fours.most(), 3);
+        due(fours.ways(), 4);
+        due(fours.narrow(4), 11);
+        promise("26 richest: not by the first way that comes there");
+        law(fours, "pays pieces * pieces if line = 0; pays 0 if line > 0");
+        fours.force(1);
+        due(fours.richest(), 4);
+        law(fours, "pays pieces * pieces if line = 1; pays 0 if not line = 1");
+        fours.force(2);
+        due(fours.richest(), 4);
         promise("22 just");
         due(x.just(0), -1);
         due(x.just(1), -1);
@@ -713,6 +784,8 @@ public final class PromiseTest {
         due(full.ways(), 1);
         due(full.richest(), 24);
         due(full.best(23), 23);
+        due(full.narrow(24), 11);
+        due(full.narrow(23), 20);
         promise("23 fewest");
         due(x.fewest(), 2);
         due(wide.fewest(), -1);
@@ -788,6 +861,25 @@ public final class PromiseTest {
         due(two.leaveOut(1), -1);
         GalleyRoom alike = room(5, 5, 5);
         due(alike.leaveOut(0), 0);
+        GalleyRoom kinds = new GalleyRoom();
+        for (int i = 0; i < 4; i++) kinds.word(5, i == 3 ? 2 : 0, i);
+        kinds.terms(3, 10);
+        law(kinds, "costs kind * 10 + hyphen * 100 + last");
+        kinds.force(0);
+        due(kinds.best(-1), 0 + 10 + 20 + 31);
+        due(kinds.leaveOut(0), 3);
+        due(kinds.leaveOut(1), 0 + 10 + 21);
+        law(kinds, "costs 50 - kind * 10; costs 0 if kind = 3 and hyphen = 1");
+        kinds.force(1);
+        // "5", "5", "5 2-", "3"
+        due(kinds.best(-1), 50 + 40 + 0 + 20);
+        due(kinds.leaveOut(0), 0);
+        due(kinds.leaveOut(1), 40 + 0 + 20);
+        law(kinds, "bars if hyphen = 0 and kind = 3 and last = 0; bars if last = 1 and pieces = 1 and short < 7");
+        kinds.force(2);
+        due(kinds.fewest(), 4);
+        due(kinds.leaveOut(0), 0);
+        due(kinds.leaveOut(1), 5 + 1 + 0);
         GalleyRoom late = room(5, 5, 20);
         late.terms(3, 11);
         due(late.leaveOut(0), 2);
@@ -823,6 +915,11 @@ public final class PromiseTest {
         due(x.river(), 2);
         x.swell(3, 9);
         due(x.river(), 1);
+        promise("29 river: to the left, and as far left as can be");
+        x = room(3, 3, 2, 3, 1, 3);
+        x.stop(1);
+        x.stop(3);
+        due(x.river(), 3);
         promise("29 river: PARTS of WORDS");
         x = new GalleyRoom();
         x.word(5, 0, 0);
@@ -988,10 +1085,26 @@ public final class PromiseTest {
         due(x.drawn(4, 1), 1);
         x.back(0);
         due(x.drawn(4, 1), 1);
+        promise("36 weeks: one WORD");
+        GalleyRoom one = new GalleyRoom();
+        one.word(20, 15, 0);
+        due(one.weeks(5, 60), weeksOfOne(5, 60));
         promise("36 weeks: by hand");
         weeksByHand(7, 60);
         weeksByHand(1000000, 37);
         weeksByHand(123456, 60);
+    }
+
+    /** How many LINES fit, if there is but one WORD of 20, its first part 15, in 30: it can be SPLIT and SWELLED alone. */
+    private static int weeksOfOne(long s, int times) {
+        int fitted = 0;
+        boolean split = false;
+        for (int i = 0; i < times; i++) {
+            for (int k = 0; k < 3; k++) s = (s * 1103 + 12345) % 1000003;
+            if (s % 4 == 2) split = !split;
+            fitted += split ? 2 : 1;
+        }
+        return fitted;
     }
 
     /** The same draws, done on the room itself. */
@@ -1077,6 +1190,27 @@ public final class PromiseTest {
         due(x.back(0), 0);
         due(x.back(0), 0);
         due(x.count(0), 4);
+        promise("39 back: what was SEEN, KINDS");
+        x = four();
+        x.stop(1);
+        x.seen(0, 19);
+        x.image(0);
+        x.forget();
+        x.seen(3, 2);
+        x.seen(1, 0);
+        due(x.canBe(), 2);
+        x.back(0);
+        due(x.canBe(), 1);
+        due(x.count(3), 1);
+        GalleyRoom y = room(5, 5);
+        y.image(0);
+        y.word(5, 0, 3);
+        y.image(1);
+        y.back(0);
+        y.word(5, 0, 1);
+        due(y.of(2, 2), 1);
+        y.back(1);
+        due(y.of(2, 2), 3);
     }
 
     private static void counts() {
