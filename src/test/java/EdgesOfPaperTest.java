@@ -217,6 +217,18 @@ public final class EdgesOfPaperTest extends Bench {
         x = by(room(5, 5, 5, 5), "bars if line > 2; bars if pieces > 3");
         due(x.fewest(), 2);
         due(x.most(), 3);
+        about("23 to 26: each asked alone");
+        due(room(5, 5, 5).fewest(), 1);
+        due(room(5, 5, 5).most(), 3);
+        due(room(5, 5, 5).ways(), 4);
+        due(room(5, 5, 5).richest(), 3);
+        due(room(5, 5, 5).just(2), 19);
+        due(room(5, 5, 5).best(0), 5);
+        about("23 to 26: a LAW that asks for the number of the LINE alone");
+        due(by(room(5, 5, 5, 5), "bars if line > 2").most(), 3);
+        due(by(room(5, 5, 5, 5), "bars if line > 2").ways(), 7);
+        due(by(room(5, 5, 5, 5), "pays 9 if line = 2").richest(), 1 + 1 + 9 + 1);
+        due(by(room(5, 5, 5), "costs 0 if line = 1; costs 9 if line = 0; costs 7 if line = 2").just(3), 16);
     }
 
     private static void ways() {
@@ -250,6 +262,12 @@ public final class EdgesOfPaperTest extends Bench {
         due(by(room(5, 5, 5), "pays pieces * pieces").richest(), 9);
         due(by(room(5, 5, 5), "pays pieces * pieces; bars if pieces = 3").richest(), 5);
         due(by(room(5, 5, 5), "pays 7 if last = 0; pays 0 if last = 1; costs 100").richest(), 14);
+        // Of two LINES "5", "5 5 5" pays 1 + 9, "5 5", "5 5" 4 + 4, "5 5 5", "5" 9 + 1.
+        due(by(room(5, 5, 5, 5), "pays pieces * pieces; bars if pieces = 4").richest(), 10);
+        due(by(room(5, 5, 5, 5), "pays pieces % 3 * 9; bars if pieces = 4").richest(), 36);
+        due(by(room(5, 5, 5, 5), "pays pieces % 3 * 9; bars if pieces = 4 or line > 1").richest(), 36);
+        due(by(room(5, 5, 5, 5), "pays pieces / 3 * 9; bars if pieces = 4 or line > 1").richest(), 9);
+        due(by(room(5, 5, 5, 5), "pays 9 if pieces = 3 and line = 1; bars if pieces = 4 or line > 1").richest(), 1 + 9);
     }
 
     private static void narrow() {
@@ -307,6 +325,10 @@ public final class EdgesOfPaperTest extends Bench {
         due(z.narrow(1), 10);
         by(z, "bars if short < 10");
         due(z.narrow(1), 11);
+        by(z, "costs 5; pays 5; bars if 1 = 2; bars if short < 11");
+        due(z.narrow(1), 12);
+        by(z, "bars if short < 12; costs 5; costs 1 / 0; bars if 1 / 0 = 1");
+        due(z.narrow(1), 13);
         due(z.count(16), 30);
     }
 

@@ -261,7 +261,7 @@ public final class EdgesOfTextsTest extends Bench {
         about("II: TOKENS: longest rows of letters a .. z, of digits");
         String[][] bad = {{"costsline", "0"}, {"costs 1if 1=1 orline=1", "14"}, {"costs linehyphen", "6"}, {"costs lin", "6"}, {"costs linee", "6"},
             {"costs l ine", "6"}, {"cost s 1", "0"}, {"costs 1 0", "8"}, {"costs 100 1", "10"}, {"Costs 1", "0"}, {"costS 1", "0"}, {"bars iF 1=1", "5"},
-            {"bars if 1=1 annd 1=1", "12"}, {"azz", "0"}, {"zaa", "0"}};
+            {"bars if 1=1 annd 1=1", "12"}, {"barsz", "0"}, {"barsa", "0"}, {"zbars", "0"}, {"abars", "0"}};
         for (String[] b : bad) {
             GalleyRoom x = new GalleyRoom();
             due(law(x, b[0]), -6);
@@ -651,6 +651,23 @@ public final class EdgesOfTextsTest extends Bench {
         GalleyRoom x = room(5);
         due(law(x, "  x"), -6);
         due(x.fault(), 2);
+        about("11, 12: what was on the TAPE ahead of it is gone");
+        due(law(x, "bars"), 0);
+        due(x.law(), -6);
+        due(x.fault(), 0);
+        due(law(x, "   "), -6);
+        due(x.law(), -6);
+        due(x.fault(), 0);
+        due(orders(x, "pass"), 1);
+        due(x.orders(), -6);
+        due(x.fault(), 0);
+        type(x, "bars if 1=1");
+        x.end(4);
+        due(x.law(), 1);
+        type(x, "   bars");
+        x.end(3);
+        due(x.law(), -6);
+        due(x.fault(), 3);
     }
 
     private static void faultOfTheLatest() {
@@ -784,6 +801,9 @@ public final class EdgesOfTextsTest extends Bench {
         due(costs(x, 0, "5; costs 4"), 4);
         due(costs(x, 0, "5; costs 4; costs 3 if 1=2"), 4);
         due(costs(x, 0, "5; costs 4; costs 1/0"), 4);
+        due(costs(x, 0, "1/0; costs 4"), 4);
+        due(costs(x, 0, "5 if 1=2; costs 4"), 4);
+        due(costs(x, 0, "5 if 1/0=1; costs 4"), 4);
         due(costs(x, 0, "5; costs 0-4"), 0);
         due(costs(x, 0, "5; pays 4; bars"), 5);
     }
@@ -857,6 +877,8 @@ public final class EdgesOfTextsTest extends Bench {
         due(x.fault(), 12);
         due(orders(x, "pass times 2 1"), -6);
         due(x.fault(), 13);
+        due(orders(x, "pass times if 1"), -6);
+        due(x.fault(), 11);
         due(orders(x, "end 0 times 3"), 3);
         due(x.of(0, 3), 1);
         due(x.count(13), 303);

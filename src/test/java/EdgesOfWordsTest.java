@@ -653,6 +653,31 @@ public final class EdgesOfWordsTest extends Bench {
         for (int i = 0; i < 16; i++) due(x.undo(), 3);
         due(x.undo(), -3);
         due(x.of(0, 3), 1);
+        about("20: the 16 that are kept are the latest");
+        GalleyRoom y = twelve(4, 2, 30);
+        for (int w = 0; w < 11; w++) y.stop(w);
+        for (int w = 0; w < 5; w++) y.split(w);
+        due(y.swell(9, 5), 4);
+        due(y.undo(), 2);
+        due(y.of(9, 0), 4);
+        for (int w = 4; w >= 0; w--) {
+            due(y.undo(), 1);
+            due(y.of(w, 4), 0);
+        }
+        for (int w = 10; w >= 1; w--) {
+            due(y.undo(), 0);
+            due(y.of(w, 3), 0);
+        }
+        due(y.undo(), -3);
+        due(y.of(0, 3), 1);
+        due(y.of(0, 4), 0);
+        GalleyRoom z = room(5, 6, 7);
+        for (int i = 0; i < 15; i++) z.stop(0);
+        z.swell(2, 9);
+        z.stop(1);
+        due(z.undo(), 0);
+        due(z.undo(), 2);
+        due(z.of(2, 0), 7);
     }
 
     private static void undoNothingAheadOf() {
